@@ -78,7 +78,7 @@ public final class NearFar {
         tape.take(n);
         draft.clear();
         if (n > 0) {
-            draft.parse(tape);
+            draft.parse(tape, 0);
         }
         if (tape.fault != 0) {
             return tape.fault - 10;
@@ -94,7 +94,15 @@ public final class NearFar {
         if (tape.fault != 0) {
             return tape.fault - 10;
         }
-        return carryOut();
+        plan.start();
+        for (int k = 0; k < Work.MOST_TURNS && plan.goesOn(); k++) {
+            if (plan.part(0) == Work.REPEAT) {
+                plan.turnBack();
+            } else if (plan.begin()) {
+                perform(plan.part(0));
+            }
+        }
+        return plan.made;
     }
 
     public int fault() {
@@ -106,7 +114,7 @@ public final class NearFar {
         needBetween(gap, 1, MOST_GAP);
         tape.take(n);
         draft.clear();
-        draft.parse(tape);
+        draft.parse(tape, 0);
         if (tape.fault != 0) {
             return tape.fault - 1_000_000_010;
         }
@@ -240,7 +248,7 @@ public final class NearFar {
             case 4: return world.votes.asked[group];
             case 5: return world.isOpen(group) ? 1 : 0;
             case 6: return world.tags.find(group);
-            case 7: return world.orders.countOf(group);
+            case 7: return world.orders.ofGroup[group];
             case 8: return world.pins[group];
             default: return world.votesNow(group);
         }
@@ -490,66 +498,48 @@ public final class NearFar {
         }
     }
 
-    private int carryOut() {
-        plan.start();
-        boolean goesOn = true;
-        // Even with nothing in them, 2,000 times "again 40" come to their end less than 100,000 times.
-        for (int k = 0; k < 100_000 && goesOn && plan.at < plan.count; k++) {
-            if (plan.part(0) == Work.REPEAT) {
-                plan.turnBack();
-            } else if (plan.begun == Work.MOST_BEGUN) {
-                goesOn = false;
-            } else {
-                plan.begun++;
-                goesOn = perform(plan.part(0));
-            }
-        }
-        return plan.made;
-    }
-
-    private boolean perform(int kind) {
-        boolean goesOn = true;
+    private void perform(int kind) {
         switch (kind) {
             case Work.AGAIN:
                 plan.enter();
-                return true;
+                return;
             case Work.SWEEP:
-                for (int segment = 0; segment < world.segments && goesOn; segment++) {
-                    goesOn = makeAccess(segment, false);
+                for (int segment = 0; segment < world.segments && !plan.over; segment++) {
+                    makeAccess(segment, false);
                 }
                 break;
             case Work.WAIT:
-                goesOn = tryAdvance(plan.part(1));
+                pass(plan.part(1));
                 break;
             case Work.FLUSH:
-                goesOn = tickOfFlush() <= LAST_TICK;
-                if (goesOn) {
+                plan.over = tickOfFlush() > LAST_TICK;
+                if (!plan.over) {
                     world.bringHome();
                 }
                 break;
             default:
-                goesOn = makeAccess(plan.part(3), kind == Work.WRITE);
+                makeAccess(plan.part(3), kind == Work.WRITE);
                 break;
         }
         plan.at++;
-        return goesOn;
     }
 
-    private boolean makeAccess(int segment, boolean writes) {
+    private void makeAccess(int segment, boolean writes) {
         if (plan.made == Work.MOST_MADE) {
-            return false;
+            plan.over = true;
+            return;
         }
         plan.made++;
         world.access(plan.part(1), plan.part(2), segment, writes, plan.part(4));
-        return tryAdvance(world.settings[PACE]);
+        pass(world.settings[PACE]);
     }
 
-    private boolean tryAdvance(int ticks) {
+    private void pass(int ticks) {
         if (world.now + ticks > LAST_TICK) {
-            return false;
+            plan.over = true;
+        } else {
+            world.advance(world.now + ticks);
         }
-        world.advance(world.now + ticks);
-        return true;
     }
 
     /** All that shape() begins anew, with the numbers and the RULE that it keeps. */
@@ -699,7 +689,7 @@ public final class NearFar {
         }
 
         private boolean isIdle(int group) {
-            return swapped[group] == 0 && orders.countOf(group) == 0;
+            return swapped[group] == 0 && orders.ofGroup[group] == 0;
         }
 
         private void dismissIfIdle(int group) {
@@ -859,6 +849,7 @@ public final class NearFar {
 
         final int[] group = new int[MOST];
         final int[] segment = new int[MOST];
+        final int[] ofGroup = new int[MOST_GROUPS];
         int count;
         int phase;
         int end;
@@ -868,6 +859,7 @@ public final class NearFar {
         int wanting;
 
         void clear() {
+            Arrays.fill(ofGroup, 0);
             count = 0;
             phase = 0;
             end = 0;
@@ -880,6 +872,7 @@ public final class NearFar {
         void copyFrom(Orders o) {
             System.arraycopy(o.group, 0, group, 0, MOST);
             System.arraycopy(o.segment, 0, segment, 0, MOST);
+            System.arraycopy(o.ofGroup, 0, ofGroup, 0, MOST_GROUPS);
             count = o.count;
             phase = o.phase;
             end = o.end;
@@ -897,11 +890,13 @@ public final class NearFar {
             if (count < MOST) {
                 group[count] = g;
                 segment[count] = s;
+                ofGroup[g]++;
                 count++;
             }
         }
 
         void dropFirst() {
+            ofGroup[group[0]]--;
             for (int k = 1; k < count; k++) {
                 group[k - 1] = group[k];
                 segment[k - 1] = segment[k];
@@ -921,16 +916,6 @@ public final class NearFar {
 
         boolean isInFlight(int g, int s) {
             return count > 0 && group[0] == g && segment[0] == s;
-        }
-
-        int countOf(int g) {
-            int sum = 0;
-            for (int k = 0; k < count; k++) {
-                if (group[k] == g) {
-                    sum++;
-                }
-            }
-            return sum;
         }
     }
 
@@ -1145,26 +1130,39 @@ public final class NearFar {
         }
     }
 
-    /** The TAPE, and a text taken from it, gone through from the left; its first FAULT. */
+    /** The TAPE, and a text taken from it, cut into numbers, words and signs; its first FAULT. */
     private static final class Text {
-        static final int MOST = 300;
         static final int FED = 20;
         static final int MISPLACED = 1;
         static final int NO_SUCH_NUMBER = 2;
         static final int TOO_MANY = 3;
-        private static final int ENDED = 0;
-        private static final int DIGITS = 1;
-        private static final int LETTERS = 2;
-        private static final int SIGN = 3;
 
+        // A token is a sign by its byte, one of WORDS by its place in them behind all bytes, or one of these.
+        static final int END = -1;
+        static final int NUMBER = -2;
+        static final int STRANGE_WORD = -3;
+        static final int CLOSE = ')';
+        static final int FIRST_WORD = 256;
+        static final int OR = FIRST_WORD + 10;
+        static final int AND = FIRST_WORD + 11;
+        static final int NOT = FIRST_WORD + 12;
+        static final int FIRST_STEP = FIRST_WORD + 13;
+        static final int LAST_STEP = FIRST_WORD + 18;
+        private static final String WORDS =
+                "votes swapped orders near far limit page hits misses plain or and not read write sweep wait flush again ";
+        private static final int MOST = 300;
+        private static final int SIGN = 0;
+        private static final int DIGIT = 1;
+        private static final int LETTER = 2;
+
+        final int[] tokens = new int[MOST_WORK_BYTES + 1];
+        final int[] starts = new int[MOST_WORK_BYTES + 1];
+        final int[] values = new int[MOST_WORK_BYTES + 1];
         final byte[] bytes = new byte[MOST];
         int held;
         int fault;
         int place = NONE;
-        private int length;
-        private int kind;
-        private int start;
-        private int end;
+        private int at;
 
         void clear() {
             held = 0;
@@ -1183,71 +1181,99 @@ public final class NearFar {
             }
         }
 
-        /** The first n bytes are the text now; the TAPE is empty. */
+        /** The first n bytes are the text now, at its first token; the TAPE is empty. */
         void take(int n) {
             clear();
-            length = n;
-            end = 0;
-            advance();
+            at = 0;
+            int length = Math.min(n, MOST_WORK_BYTES);
+            int count = 0;
+            int k = 0;
+            while (k < length) {
+                int end = endOfToken(k, length);
+                if (bytes[k] != ' ') {
+                    starts[count] = k;
+                    tokens[count] = tokenOf(k, end);
+                    values[count] = tokens[count] == NUMBER ? numberOf(k, end) : 0;
+                    count++;
+                }
+                k = end;
+            }
+            starts[count] = length;
+            tokens[count] = END;
         }
 
-        /** Goes on to the next number, word or sign. */
-        void advance() {
-            start = end;
-            while (start < length && bytes[start] == ' ') {
-                start++;
-            }
-            end = start;
-            kind = ENDED;
-            if (start < length) {
-                kind = kindOf(bytes[start]);
+        private int endOfToken(int from, int length) {
+            int kind = kindOf(bytes[from]);
+            int end = from + 1;
+            while (kind != SIGN && end < length && kindOf(bytes[end]) == kind) {
                 end++;
-                while (kind != SIGN && end < length && kindOf(bytes[end]) == kind) {
-                    end++;
-                }
             }
+            return end;
         }
 
         private static int kindOf(byte b) {
             if (b >= '0' && b <= '9') {
-                return DIGITS;
+                return DIGIT;
             }
-            return b >= 'a' && b <= 'z' ? LETTERS : SIGN;
+            return b >= 'a' && b <= 'z' ? LETTER : SIGN;
+        }
+
+        private int tokenOf(int from, int end) {
+            int kind = kindOf(bytes[from]);
+            if (kind == SIGN) {
+                return bytes[from] & 255;
+            }
+            return kind == DIGIT ? NUMBER : wordOf(from, end);
+        }
+
+        private int wordOf(int from, int end) {
+            int word = FIRST_WORD;
+            int next = from;
+            boolean alike = true;
+            for (int k = 0; k < WORDS.length(); k++) {
+                char c = WORDS.charAt(k);
+                if (c != ' ') {
+                    alike = alike && next < end && bytes[next] == c;
+                    next++;
+                } else if (alike && next == end) {
+                    return word;
+                } else {
+                    word++;
+                    next = from;
+                    alike = true;
+                }
+            }
+            return STRANGE_WORD;
+        }
+
+        private int numberOf(int from, int end) {
+            int v = 0;
+            for (int k = from; k < end && v <= 99_999_999; k++) {
+                // Above all that is allowed anywhere, it need not grow any more (and can't wrap around).
+                v = 10 * v + bytes[k] - '0';
+            }
+            return v;
+        }
+
+        int token() {
+            return tokens[at];
+        }
+
+        void advance() {
+            if (tokens[at] != END) {
+                at++;
+            }
         }
 
         void fail(int why) {
             if (fault == 0) {
                 fault = why;
-                place = start;
+                place = starts[at];
             }
-        }
-
-        boolean isOver() {
-            return kind == ENDED;
-        }
-
-        boolean isNumber() {
-            return kind == DIGITS;
-        }
-
-        boolean isSign(char c) {
-            return kind == SIGN && bytes[start] == c;
-        }
-
-        boolean isWord(String w) {
-            if (kind != LETTERS || end - start != w.length()) {
-                return false;
-            }
-            for (int k = 0; k < w.length(); k++) {
-                if (bytes[start + k] != w.charAt(k)) {
-                    return false;
-                }
-            }
-            return true;
         }
 
         void takeSign(char c) {
-            if (isSign(c)) {
+            if (tokens[at] == c) {
                 advance();
             } else {
                 fail(MISPLACED);
@@ -1255,21 +1281,16 @@ public final class NearFar {
         }
 
         int takeNumber(int lowest, int highest) {
-            if (!isNumber()) {
+            int v = values[at];
+            if (tokens[at] != NUMBER) {
                 fail(MISPLACED);
-                return 0;
-            }
-            int v = 0;
-            for (int k = start; k < end; k++) {
-                // Above all that is allowed anywhere, it need not grow any more (and can't wrap around).
-                v = v > 99_999_999 ? v : 10 * v + bytes[k] - '0';
-            }
-            if (v < lowest || v > highest) {
+            } else if (v < lowest || v > highest) {
                 fail(NO_SUCH_NUMBER);
-                return 0;
+            } else {
+                advance();
+                return v;
             }
-            advance();
-            return v;
+            return 0;
         }
     }
 
@@ -1278,16 +1299,9 @@ public final class NearFar {
         static final int NAMES = 10;
         private static final int MOST_SIGNS = 20;
         private static final int MOST_OPEN = 6;
-        private static final int NUMBER = 0;
+        // An operation is the sign or word that it is told by, or one of these.
+        private static final int VALUE = 0;
         private static final int NAME = 1;
-        private static final int PLUS = 2;
-        private static final int MINUS = 3;
-        private static final int BELOW = 4;
-        private static final int EQUAL = 5;
-        private static final int ABOVE = 6;
-        private static final int AND = 7;
-        private static final int OR = 8;
-        private static final int NOT = 9;
 
         // No operation without a byte of the text of its own.
         final int[] operations = new int[MOST_RULE_BYTES];
@@ -1308,55 +1322,52 @@ public final class NearFar {
             signs = o.signs;
         }
 
-        /** Reads a text; whether it has a FAULT, the text knows. */
-        void parse(Text text) {
-            parseAny(text, 0);
-            if (!text.isOver()) {
-                text.fail(Text.MISPLACED);
-            }
-        }
-
-        private void parseAny(Text text, int open) {
+        /** Reads E: all of a text (nothing is open), or what stands in "(" and ")"; FAULTS are kept by the text. */
+        void parse(Text text, int open) {
             parseAll(text, open);
-            for (int k = 0; k < MOST_RULE_BYTES && text.fault == 0 && text.isWord("or"); k++) {
+            for (int k = 0; k < MOST_RULE_BYTES && text.fault == 0 && text.token() == Text.OR; k++) {
                 text.advance();
                 parseAll(text, open);
-                add(OR, 0);
+                add(Text.OR, 0);
+            }
+            int due = open == 0 ? Text.END : Text.CLOSE;
+            if (text.token() != due) {
+                text.fail(Text.MISPLACED);
             }
         }
 
         private void parseAll(Text text, int open) {
             parseNot(text, open);
-            for (int k = 0; k < MOST_RULE_BYTES && text.fault == 0 && text.isWord("and"); k++) {
+            for (int k = 0; k < MOST_RULE_BYTES && text.fault == 0 && text.token() == Text.AND; k++) {
                 text.advance();
                 parseNot(text, open);
-                add(AND, 0);
+                add(Text.AND, 0);
             }
         }
 
         private void parseNot(Text text, int open) {
-            boolean not = text.isWord("not");
+            boolean not = text.token() == Text.NOT;
             if (not) {
                 text.advance();
             }
-            if (!text.isSign('(')) {
+            if (text.token() != '(') {
                 parseComparison(text);
             } else if (open == MOST_OPEN) {
                 text.fail(Text.TOO_MANY);
             } else {
                 text.advance();
-                parseAny(text, open + 1);
-                text.takeSign(')');
+                parse(text, open + 1);
+                text.advance();
             }
             if (not) {
-                add(NOT, 0);
+                add(Text.NOT, 0);
             }
         }
 
         private void parseComparison(Text text) {
             parseSum(text);
-            int operation = text.isSign('<') ? BELOW : text.isSign('=') ? EQUAL : ABOVE;
-            if (operation == ABOVE && !text.isSign('>')) {
+            int sign = text.token();
+            if (sign != '<' && sign != '=' && sign != '>') {
                 text.fail(Text.MISPLACED);
             } else if (signs == MOST_SIGNS) {
                 text.fail(Text.TOO_MANY);
@@ -1365,66 +1376,29 @@ public final class NearFar {
                 signs++;
                 text.advance();
                 parseSum(text);
-                add(operation, 0);
+                add(sign, 0);
             }
         }
 
         private void parseSum(Text text) {
-            parseUnit(text);
-            for (int k = 0; k < MOST_RULE_BYTES && text.fault == 0; k++) {
-                boolean minus = text.isSign('-');
-                if (!minus && !text.isSign('+')) {
+            int sign = 0;
+            for (int k = 0; k < MOST_RULE_BYTES; k++) {
+                int name = text.token() - Text.FIRST_WORD;
+                if (name >= 0 && name < NAMES) {
+                    add(NAME, name);
+                    text.advance();
+                } else {
+                    add(VALUE, text.takeNumber(0, 9_999));
+                }
+                if (k > 0) {
+                    add(sign, 0);
+                }
+                sign = text.token();
+                if (text.fault != 0 || sign != '+' && sign != '-') {
                     return;
                 }
                 text.advance();
-                parseUnit(text);
-                add(minus ? MINUS : PLUS, 0);
             }
-        }
-
-        private void parseUnit(Text text) {
-            if (text.isNumber()) {
-                add(NUMBER, text.takeNumber(0, 9_999));
-                return;
-            }
-            int name = nameOf(text);
-            if (name == NONE) {
-                text.fail(Text.MISPLACED);
-                return;
-            }
-            add(NAME, name);
-            text.advance();
-        }
-
-        private static int nameOf(Text text) {
-            if (text.isWord("votes")) {
-                return 0;
-            }
-            if (text.isWord("swapped")) {
-                return 1;
-            }
-            if (text.isWord("orders")) {
-                return 2;
-            }
-            if (text.isWord("near")) {
-                return 3;
-            }
-            if (text.isWord("far")) {
-                return 4;
-            }
-            if (text.isWord("limit")) {
-                return 5;
-            }
-            if (text.isWord("page")) {
-                return 6;
-            }
-            if (text.isWord("hits")) {
-                return 7;
-            }
-            if (text.isWord("misses")) {
-                return 8;
-            }
-            return text.isWord("plain") ? 9 : NONE;
         }
 
         private void add(int operation, int operand) {
@@ -1439,10 +1413,10 @@ public final class NearFar {
             int top = 0;
             for (int k = 0; k < count; k++) {
                 int operation = operations[k];
-                if (operation == NUMBER || operation == NAME) {
-                    stack[top] = operation == NUMBER ? operands[k] : values[operands[k]];
+                if (operation == VALUE || operation == NAME) {
+                    stack[top] = operation == VALUE ? operands[k] : values[operands[k]];
                     top++;
-                } else if (operation == NOT && top > 0) {
+                } else if (operation == Text.NOT && top > 0) {
                     stack[top - 1] = 1 - stack[top - 1];
                 } else if (top > 1) {
                     top--;
@@ -1454,12 +1428,12 @@ public final class NearFar {
 
         private static long joined(int operation, long a, long b) {
             switch (operation) {
-                case PLUS: return a + b;
-                case MINUS: return a - b;
-                case BELOW: return a < b ? 1 : 0;
-                case EQUAL: return a == b ? 1 : 0;
-                case ABOVE: return a > b ? 1 : 0;
-                case AND: return a & b;
+                case '+': return a + b;
+                case '-': return a - b;
+                case '<': return a < b ? 1 : 0;
+                case '=': return a == b ? 1 : 0;
+                case '>': return a > b ? 1 : 0;
+                case Text.AND: return a & b;
                 default: return a | b;
             }
         }
@@ -1467,8 +1441,10 @@ public final class NearFar {
 
     /** A WORK: its STEPS, and how far it has been done. */
     private static final class Work {
-        static final int MOST_BEGUN = 2_000;
         static final int MOST_MADE = 400;
+        // Even with nothing in them, 2,000 times "again 40" come to their end less often.
+        static final int MOST_TURNS = 100_000;
+        // In the order of their words.
         static final int READ = 0;
         static final int WRITE = 1;
         static final int SWEEP = 2;
@@ -1477,6 +1453,7 @@ public final class NearFar {
         static final int AGAIN = 5;
         // Where an AGAIN ends: no STEP, but a place in the row of them.
         static final int REPEAT = 6;
+        private static final int MOST_BEGUN = 2_000;
         private static final int MOST_OPEN = 5;
         private static final int PARTS = 5;
         private static final int MOST_STEPS = 100;
@@ -1490,21 +1467,25 @@ public final class NearFar {
         int at;
         int begun;
         int made;
+        boolean over;
 
-        /** Reads a text; whether it has a FAULT, the text knows. */
+        /** Reads a text; FAULTS are kept by the text. */
         void parse(Text text, World world) {
             count = 0;
             open = 0;
-            for (int k = 0; k < MOST_WORK_BYTES && text.fault == 0 && !text.isOver(); k++) {
-                if (open > 0 && text.isSign(']')) {
+            for (int k = 0; k < MOST_WORK_BYTES && text.fault == 0 && text.token() != Text.END; k++) {
+                int token = text.token();
+                if (token == ']' && open > 0) {
                     text.advance();
                     close();
                     text.takeSign(';');
-                } else if (text.isWord("again")) {
+                } else if (token == Text.LAST_STEP) {
                     parseAgain(text);
-                } else {
-                    parseStep(text, world);
+                } else if (token >= Text.FIRST_STEP && token < Text.LAST_STEP) {
+                    parseStep(token - Text.FIRST_STEP, text, world);
                     text.takeSign(';');
+                } else {
+                    text.fail(Text.MISPLACED);
                 }
             }
             if (open > 0) {
@@ -1532,12 +1513,7 @@ public final class NearFar {
             add(REPEAT);
         }
 
-        private void parseStep(Text text, World world) {
-            int kind = kindOf(text);
-            if (kind == NONE) {
-                text.fail(Text.MISPLACED);
-                return;
-            }
+        private void parseStep(int kind, Text text, World world) {
             text.advance();
             add(kind);
             if (kind == WAIT) {
@@ -1552,22 +1528,6 @@ public final class NearFar {
             if (kind == WRITE) {
                 put(4, text.takeNumber(0, 99_999_999));
             }
-        }
-
-        private static int kindOf(Text text) {
-            if (text.isWord("read")) {
-                return READ;
-            }
-            if (text.isWord("write")) {
-                return WRITE;
-            }
-            if (text.isWord("sweep")) {
-                return SWEEP;
-            }
-            if (text.isWord("wait")) {
-                return WAIT;
-            }
-            return text.isWord("flush") ? FLUSH : NONE;
         }
 
         private void add(int kind) {
@@ -1588,6 +1548,18 @@ public final class NearFar {
             open = 0;
             begun = 0;
             made = 0;
+            over = false;
+        }
+
+        boolean goesOn() {
+            return !over && at < count;
+        }
+
+        /** Whether the STEP that is come to may begin. */
+        boolean begin() {
+            over = begun == MOST_BEGUN;
+            begun++;
+            return !over;
         }
 
         int part(int k) {
@@ -1595,13 +1567,14 @@ public final class NearFar {
         }
 
         void enter() {
-            if (part(1) == 0 || open == MOST_OPEN) {
+            int times = part(1);
+            if (times == 0 || open == MOST_OPEN) {
                 at = part(2) + 1;
                 return;
             }
-            left[open] = part(1);
             at++;
             firsts[open] = at;
+            left[open] = times;
             open++;
         }
 
