@@ -1187,16 +1187,15 @@ public final class NearFar {
             at = 0;
             int length = Math.min(n, MOST_WORK_BYTES);
             int count = 0;
-            int k = 0;
-            while (k < length) {
-                int end = endOfToken(k, length);
-                if (bytes[k] != ' ') {
+            int end = 0;
+            for (int k = 0; k < length; k++) {
+                if (k >= end && bytes[k] != ' ') {
+                    end = endOfToken(k, length);
                     starts[count] = k;
                     tokens[count] = tokenOf(k, end);
                     values[count] = tokens[count] == NUMBER ? numberOf(k, end) : 0;
                     count++;
                 }
-                k = end;
             }
             starts[count] = length;
             tokens[count] = END;
