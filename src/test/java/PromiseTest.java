@@ -12,6 +12,7 @@ public final class PromiseTest {
         newObject();
         shape();
         shapeForgetsAllElse();
+        shapeForgetsMore();
         feed();
         rule();
         ruleFaults();
@@ -201,6 +202,36 @@ public final class PromiseTest {
         due("2: page", () -> x.page(1, 2), 0);
     }
 
+    private static void shapeForgetsMore() {
+        NearFar x = new NearFar();
+        x.shape(8, 7, 8);
+        x.set(2, 1);
+        for (int k = 0; k < 17; k++) {
+            x.read(k / 8, 1, k % 8);
+        }
+        due("2: before, wanting", () -> x.told(10), 1);
+        x.shape(8, 7, 8);
+        due("2: none wanting", () -> x.told(10), 0);
+        x.go(100);
+        x.read(0, 1, 0);
+        x.set(4, 2);
+        x.read(0, 0, 0);
+        x.shape(4, 3, 4);
+        x.read(0, 0, 0);
+        due("2: counting begins anew", () -> x.told(5), 4);
+        x.read(0, 0, 0);
+        due("2: two since then", () -> x.told(5), 3);
+        x.set(6, 50);
+        x.set(2, 99);
+        x.go(900);
+        reads(x, 1, 1, 0, 4);
+        x.shape(4, 3, 4);
+        reads(x, 1, 1, 0, 4);
+        x.go(50);
+        due("2: votes are as old as their accesses are", () -> x.group(1, 9), 2);
+        due("2: accesses of the group", () -> x.group(1, 4), 4);
+    }
+
     private static void feed() {
         NearFar x = new NearFar();
         for (int k = 1; k <= 15; k++) {
@@ -266,6 +297,11 @@ public final class PromiseTest {
         faulty(x, "votes", 1, 5);
         faulty(x, "vote > 1", 1, 0);
         faulty(x, "votess > 1", 1, 0);
+        faulty(x, "votesz > 1", 1, 0);
+        faulty(x, "avotes > 1", 1, 0);
+        faulty(x, "votes > 1 oraz 1 = 1", 1, 10);
+        faulty(x, "or > 1", 1, 0);
+        faulty(x, ";".repeat(120), 1, 0);
         faulty(x, " Votes > 1", 1, 1);
         faulty(x, "votes >= 1", 1, 7);
         faulty(x, "not not votes=1", 1, 4);
@@ -347,6 +383,14 @@ public final class PromiseTest {
         due("4: brackets", () -> holds(x, "(1=1 or 1=1) and 1=2", 0, 0) ? 1 : 0, 0);
         due("4: not binds most", () -> holds(x, "not 1=1 and 1=2", 0, 0) ? 1 : 0, 0);
         due("4: not of brackets", () -> holds(x, "not (1=1 and 1=2)", 0, 0) ? 1 : 0, 1);
+        due("4: not below itself", () -> holds(x, "3<3", 0, 0) ? 1 : 0, 0);
+        due("4: nor above", () -> holds(x, "3<2", 0, 0) ? 1 : 0, 0);
+        due("4: not of what is not", () -> holds(x, "not 1=2", 0, 0) ? 1 : 0, 1);
+        reads(x, 0, 2, 0, 3);
+        named(x, "hits", 0, 2, 3);
+        named(x, "misses", 0, 2, 1);
+        x.go(500);
+        named(x, "far", 1, 0, 0);
         due("4: less than 0", () -> holds(x, "1-2<0", 0, 0) ? 1 : 0, 1);
     }
 
@@ -363,6 +407,8 @@ public final class PromiseTest {
         due("5: no PACE", () -> work(x, "sweep 3 3;wait 999;") * 10_000 + x.told(3), 41_005);
         due("5: again", () -> work(x, "again 3[read 0 1 0;again 2[read 0 1 1;];];wait 1;"), 9);
         due("5: again 0", () -> work(x, "again 0[read 0 1 0;again 2[read 0 1 1;];];wait 1;") * 10_000 + x.told(3), 1_007);
+        due("5: again 0, in another", () -> work(x, "again 2[again 0[read 0 1 0;];read 0 0 0;];"), 2);
+        due("5: the least word", () -> work(x, "write 2 2 2 5;write 2 2 2 0;") * 10 + x.word(2, 2, 2), 20);
         due("5: flush", () -> work(x, "flush;") + x.told(8) + x.told(4), 0);
         due("5: n below 0", () -> x.work(-1), UNFIT);
         due("5: more than the tape has", () -> x.work(1), UNFIT);
@@ -403,6 +449,8 @@ public final class PromiseTest {
         workFaulty(x, "again 4 [] read 0 0 0;", 1, 11);
         workFaulty(x, "again 4 []", 1, 10);
         workFaulty(x, "];", 1, 0);
+        workFaulty(x, ";".repeat(200), 1, 0);
+        workFaulty(x, "wait 1;".repeat(28) + "]]]]", 1, 196);
         workFaulty(x, ";", 1, 0);
         workFaulty(x, "wait 1;;", 1, 7);
         workFaulty(x, "wait 1;flushes;", 1, 7);
@@ -473,6 +521,7 @@ public final class PromiseTest {
         due("7: a number", () -> other(x, "1 > 20000", 50), 2 - 1_000_000_010);
         due("7: too many", () -> other(x, "(((((((", 50), 3 - 1_000_000_010);
         due("7: n is 0", () -> x.other(0, 1), UNFIT);
+        due("7: n is 1", () -> other(x, "1", 1), 1 - 1_000_000_010);
         feed(x, "1=1");
         due("7: more than the tape has", () -> x.other(21, 1), UNFIT);
         due("7: gap is 0", () -> x.other(3, 0), UNFIT);
@@ -624,6 +673,23 @@ public final class PromiseTest {
         due("26: far above", () -> x.tag(Integer.MAX_VALUE), -1);
         due("26: far below", () -> x.tag(Integer.MIN_VALUE), -1);
         due("18: plain, hits, misses", () -> x.count(4) * 100 + x.count(5) * 10 + x.count(6), 415);
+        NearFar y = new NearFar();
+        y.shape(8, 1, 1);
+        y.set(2, 1);
+        y.set(3, 8);
+        for (int g = 0; g < 8; g++) {
+            y.read(g, 1, 0);
+        }
+        y.go(1_000);
+        for (int g = 0; g < 8; g++) {
+            y.read(g, 1, 0);
+        }
+        for (int k = 0; k < 8; k++) {
+            int place = k;
+            due("26: eight, the latest first", () -> y.tag(place), 7 - k);
+        }
+        y.read(0, 1, 0);
+        due("2a: the last one is a hit", () -> y.latest(2) * 100 + y.tag(0) * 10 + y.tag(7), 101);
     }
 
     private static void votes() {
@@ -911,6 +977,23 @@ public final class PromiseTest {
         y.go(30);
         y.go(4);
         due("16: till 1,000,000", () -> y.flush() + y.told(3), 1_000_016);
+        NearFar z = new NearFar();
+        z.shape(8, 7, 8);
+        z.set(2, 1);
+        goTo(z, 999_950);
+        z.write(7, 7, 7, 5);
+        z.go(30);
+        z.go(5);
+        due("16: of the last group, too", () -> z.flush(), LATE);
+        due("16: nothing changes there", () -> z.told(3) + z.told(4), 999_985);
+        NearFar w = new NearFar();
+        w.set(2, 1);
+        w.set(5, 0);
+        goTo(w, 999_950);
+        w.write(0, 1, 0, 5);
+        w.go(30);
+        w.go(4);
+        due("5: a work goes on at 1,000,000", () -> work(w, "flush;read 0 0 0;") * 10 + w.told(8), 10);
     }
 
     private static void told() {
@@ -1097,6 +1180,10 @@ public final class PromiseTest {
         x.set(0, 99);
         x.set(1, 1);
         due("31: all to FAR", () -> x.split(90, 0) * 100 + x.split(90, 1), 90);
+        NearFar y = new NearFar();
+        y.set(2, 99);
+        reads(y, 0, 1, 0, 10);
+        due("31: what is none's does not wait", () -> y.split(3, 0) * 100 + y.split(3, 1), 306);
         due("31: 0", () -> x.split(0, 0), UNFIT);
         due("31: 1,001", () -> x.split(1_001, 0), UNFIT);
         due("31: what", () -> x.split(1, 2), UNFIT);
@@ -1134,7 +1221,10 @@ public final class PromiseTest {
             due("32: unfit", () -> x.run(a[0], a[1], a[2], a[3]), UNFIT);
         }
         due("32: the highest", () -> x.run(99, 8, 99, 4), 0);
+        // What would() was thought of last does not show in a RUN.
         x.set(6, 30);
+        x.go(500);
+        x.would(0, 1, 0, 0);
         // Votes 1, then halved to 0 each time: 1, ...: never 2.
         due("32: AGE as it is", () -> x.run(2, 1, 30, 0), 24);
     }
@@ -1154,6 +1244,13 @@ public final class PromiseTest {
         x.read(0, 2, 0);
         // LEAST 1: a miss at each: 6 + 8 + ..; LEAST 2 and more: 6 + 6 + 6, votes are 1 at most.
         due("33: the least of alike ones", () -> x.tune(50, 0) * 100 + x.tune(50, 1), 218);
+        x.shape(4, 3, 4);
+        reads(x, 0, 1, 0, 19);
+        reads(x, 0, 2, 0, 1);
+        reads(x, 0, 1, 0, 1);
+        // The first 19 are of FAR alike, wherever an ORDER comes behind; by LEAST 20 none comes at all.
+        due("33: up to 20", () -> x.tune(1, 0), tuned(x, 1));
+        due("33: the latencies", () -> x.tune(1, 1), x.run(x.tune(1, 0), 2, 1, 0));
         due("33: gap 0", () -> x.tune(0, 0), UNFIT);
         due("33: gap 100", () -> x.tune(100, 0), UNFIT);
         due("33: what", () -> x.tune(1, 2), UNFIT);
@@ -1170,6 +1267,16 @@ public final class PromiseTest {
         due("34: LEAST as it is", () -> x.enough(99), 0);
     }
 
+    private static int tuned(NearFar x, int gap) {
+        int best = 1;
+        for (int least = 2; least <= 20; least++) {
+            if (x.run(least, x.told(14), gap, 0) < x.run(best, x.told(14), gap, 0)) {
+                best = least;
+            }
+        }
+        return best;
+    }
+
     private static void ideal() {
         NearFar x = new NearFar();
         reads(x, 0, 0, 0, 3);
@@ -1179,6 +1286,8 @@ public final class PromiseTest {
         due("35: 4 and 2", x::ideal, 6);
         reads(x, 2, 2, 2, 60);
         due("35: the latest 64 alone", x::ideal, 62);
+        reads(x, 3, 3, 0, 64);
+        due("35: the last page of the last group", x::ideal, 64);
     }
 
     private static void needs() {
