@@ -78,7 +78,7 @@ public final class NearFar {
         tape.take(n);
         draft.clear();
         if (n > 0) {
-            draft.parse(tape, 0);
+            draft.parse(tape);
         }
         if (tape.fault != 0) {
             return tape.fault - 10;
@@ -114,7 +114,7 @@ public final class NearFar {
         needBetween(gap, 1, MOST_GAP);
         tape.take(n);
         draft.clear();
-        draft.parse(tape, 0);
+        draft.parse(tape);
         if (tape.fault != 0) {
             return tape.fault - 1_000_000_010;
         }
@@ -1141,7 +1141,6 @@ public final class NearFar {
         static final int END = -1;
         static final int NUMBER = -2;
         static final int STRANGE_WORD = -3;
-        static final int CLOSE = ')';
         static final int FIRST_WORD = 256;
         static final int OR = FIRST_WORD + 10;
         static final int AND = FIRST_WORD + 11;
@@ -1321,26 +1320,34 @@ public final class NearFar {
             signs = o.signs;
         }
 
-        /** Reads E: all of a text (nothing is open), or what stands in "(" and ")"; FAULTS are kept by the text. */
-        void parse(Text text, int open) {
-            parseAll(text, open);
-            for (int k = 0; k < MOST_RULE_BYTES && text.fault == 0 && text.token() == Text.OR; k++) {
-                text.advance();
-                parseAll(text, open);
-                add(Text.OR, 0);
-            }
-            int due = open == 0 ? Text.END : Text.CLOSE;
-            if (text.token() != due) {
+        /** Reads all of a text; FAULTS are kept by the text. */
+        void parse(Text text) {
+            parseEither(text, 0);
+            if (text.token() != Text.END) {
                 text.fail(Text.MISPLACED);
             }
         }
 
-        private void parseAll(Text text, int open) {
+        /** Reads E. As "and" ties first, an "or" is done when the next one comes, or nothing more. */
+        private void parseEither(Text text, int open) {
+            boolean waits = false;
             parseNot(text, open);
-            for (int k = 0; k < MOST_RULE_BYTES && text.fault == 0 && text.token() == Text.AND; k++) {
+            int tie = text.token();
+            for (int k = 0; k < MOST_RULE_BYTES && text.fault == 0 && (tie == Text.OR || tie == Text.AND); k++) {
+                if (tie == Text.OR && waits) {
+                    add(Text.OR, 0);
+                }
                 text.advance();
                 parseNot(text, open);
-                add(Text.AND, 0);
+                if (tie == Text.AND) {
+                    add(Text.AND, 0);
+                } else {
+                    waits = true;
+                }
+                tie = text.token();
+            }
+            if (waits) {
+                add(Text.OR, 0);
             }
         }
 
@@ -1355,8 +1362,8 @@ public final class NearFar {
                 text.fail(Text.TOO_MANY);
             } else {
                 text.advance();
-                parse(text, open + 1);
-                text.advance();
+                parseEither(text, open + 1);
+                text.takeSign(')');
             }
             if (not) {
                 add(Text.NOT, 0);

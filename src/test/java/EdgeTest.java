@@ -32,6 +32,7 @@ public final class EdgeTest {
         buffersAside();
         textsCut();
         textsSpaced();
+        tiesOfRules();
         signsAtTheirEdges();
         textsFull();
         stepsCounted();
@@ -54,6 +55,7 @@ public final class EdgeTest {
         shapesAtTheirEdges();
         refusedCallsChangeNothing();
         anyNumbers();
+        asTheReadmeTells();
         System.out.println(wrong == 0 ? checked + " answers are as due" : wrong + " answers are not as due");
         if (wrong != 0) {
             System.exit(1);
@@ -637,6 +639,40 @@ public final class EdgeTest {
         return x.so(0, 0, 0) ? 1 : 0;
     }
 
+    /** All that four comparisons can be, tied in each way that brings them together otherwise. */
+    private static void tiesOfRules() {
+        for (int bits = 0; bits < 16; bits++) {
+            boolean a = (bits & 1) != 0;
+            boolean b = (bits & 2) != 0;
+            boolean c = (bits & 4) != 0;
+            boolean d = (bits & 8) != 0;
+            tied("A or B or C or D", bits, a || b || c || d);
+            tied("A and B and C and D", bits, a && b && c && d);
+            tied("A and B or C and D", bits, a && b || c && d);
+            tied("A or B and C or D", bits, a || b && c || d);
+            tied("A or B or C and D", bits, a || b || c && d);
+            tied("A and B and C or D", bits, a && b && c || d);
+            tied("(A or B) and (C or D)", bits, (a || b) && (c || d));
+            tied("A and (B or C or D)", bits, a && (b || c || d));
+            tied("A or B and (C or D)", bits, a || b && (c || d));
+            tied("A and (B or C and D)", bits, a && (b || c && d));
+            tied("(A or B or C) and D", bits, (a || b || c) && d);
+            tied("not A or B and not (C or D)", bits, !a || b && !(c || d));
+            tied("not (A and (B or not (C and D)))", bits, !(a && (b || !(c && d))));
+        }
+    }
+
+    private static void tied(String form, int bits, boolean want) {
+        String text = form;
+        for (int k = 0; k < 4; k++) {
+            text = text.replace(String.valueOf((char) ('A' + k)), (bits >> k & 1) != 0 ? "1=1" : "1=0");
+        }
+        NearFar x = new NearFar();
+        String told = text;
+        due("4: signs of " + told, () -> rule(x, told), 4);
+        due("4: " + told, () -> x.so(0, 0, 0) ? 1 : 0, want ? 1 : 0);
+    }
+
     private static void signsAtTheirEdges() {
         NearFar x = new NearFar();
         String[] so = {"2>1", "1=1", "1<2", "not 2<1", "not 1<1", "not 1>1", "not 1=2", "1-2<0", "0-1+1=0", "9999-9999=0",
@@ -1059,6 +1095,27 @@ public final class EdgeTest {
         x.set(2, 99);
         due("34: no MISSES: 0", () -> x.enough(1), 0);
         due("34: none", () -> new NearFar().enough(1), 0);
+        enoughWithFewer();
+    }
+
+    /** MISSES by SIZE 0 to 8: 45, 24, 17, 15, 11, 7, 9, 8, 8 (late MISSES keep places taken, so that ORDERS are none). */
+    private static void enoughWithFewer() {
+        NearFar x = eager();
+        x.shape(8, 7, 8);
+        x.set(0, 26);
+        x.set(1, 15);
+        String accesses = "010 010 012 013 014 015 016 310 010 111 112 113 114 115 017 210 620 420 621 001 110 200 421 100 "
+                + "000 000 000 000 001 000 000 011 610 400 310 200 000 011 200 000 000 000 000 000 200 410 200 510 300 200 "
+                + "510 600 710 700 000";
+        for (String a : accesses.split(" ")) {
+            x.read(a.charAt(0) - '0', a.charAt(1) - '0', a.charAt(2) - '0');
+        }
+        int[] misses = {45, 24, 17, 15, 11, 7, 9, 8, 8};
+        for (int size = 0; size < misses.length; size++) {
+            int z = size;
+            due("32: MISSES with SIZE " + z, () -> x.run(1, z, 20, 3), misses[z]);
+        }
+        due("34: the least SIZE with no more than 8 has fewer, some above it have more", () -> x.enough(20), 5);
     }
 
     private static void needsAtItsEdges() {
@@ -1293,6 +1350,21 @@ public final class EdgeTest {
             some(() -> x.tag(a) + x.majority(a) + x.status(a) + x.enough(a));
             some(x::flush);
         }
+    }
+
+    /** What README.md tells of its example. */
+    private static void asTheReadmeTells() {
+        NearFar x = new NearFar();
+        due("README: shape", () -> x.shape(2, 1, 1), 4);
+        x.set(2, 2);
+        due("README: write", () -> x.write(0, 1, 0, 77), 0);
+        x.read(0, 1, 0);
+        due("README: go", () -> x.go(30), 1);
+        due("README: read", () -> x.read(0, 1, 0), 77);
+        due("README: where", () -> x.where(0, 1, 0), 0);
+        due("README: latest", () -> ofLatest(x), 402);
+        due("README: rule", () -> rule(x, "votes > 1 and (orders < 8 or not far > 20)"), 3);
+        due("README: work", () -> work(x, "again 3[read 0 1 0; sweep 1 0; wait 5;]; flush;"), 6);
     }
 
     private static void some(LongSupplier call) {
